@@ -1,0 +1,36 @@
+/** Counts and prints the answers that are not the ones that are due. */
+final class Check {
+    private static final int MOST_PRINTED = 50;
+
+    private static int passed = 0;
+    private static int failed = 0;
+
+    private Check() {
+    }
+
+    static void same(String what, long got, long due) {
+        if (got == due) {
+            passed++;
+            return;
+        }
+        failed++;
+        if (failed <= MOST_PRINTED) {
+            System.out.println(what + " answered " + got + ", due is " + due);
+        }
+    }
+
+    static void holds(String what, boolean holds) {
+        same(what, holds ? 1 : 0, 1);
+    }
+
+    static boolean hasFailed() {
+        return failed > 0;
+    }
+
+    static void finish(String name) {
+        System.out.println(name + ": " + passed + " answers as due, " + failed + " not");
+        if (failed > 0) {
+            System.exit(1);
+        }
+    }
+}

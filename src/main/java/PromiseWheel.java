@@ -637,7 +637,7 @@ public final class PromiseWheel {
         }
 
         private void letFall(int ring) {
-            int line = ring * SLOTS + slotAt(ring, now);
+            int line = ring * SLOTS + presentSlot(ring);
             // The length is read once: who falls could join a line behind, never this one again.
             int standing = lines.lengthOf(line);
             for (int step = 0; step < standing; step++) {
@@ -653,7 +653,7 @@ public final class PromiseWheel {
         }
 
         private void letArrive() {
-            int line = slotAt(0, now);
+            int line = presentSlot(0);
             int standing = lines.lengthOf(line);
             for (int step = 0; step < standing; step++) {
                 int promise = lines.frontOf(line);
@@ -722,18 +722,18 @@ public final class PromiseWheel {
 
         private int lineFor(int due) {
             int distance = due - now;
-            int ring = 2;
             if (distance < SLOTS) {
-                ring = 0;
-            } else if (distance < SLOTS * SLOTS) {
-                ring = 1;
+                return due % SLOTS;
             }
-            return ring * SLOTS + slotAt(ring, due);
+            if (distance < SLOTS * SLOTS) {
+                return SLOTS + due / SLOTS % SLOTS;
+            }
+            return 2 * SLOTS + due / (SLOTS * SLOTS) % SLOTS;
         }
 
         /** A shift, since a slot of each ring is as long as the whole ring inside it, 8 slots. */
-        private static int slotAt(int ring, int tick) {
-            return (tick >> (3 * ring)) & (SLOTS - 1);
+        private int presentSlot(int ring) {
+            return (now >> (3 * ring)) & (SLOTS - 1);
         }
 
         int figure(int what) {
@@ -848,7 +848,7 @@ public final class PromiseWheel {
         }
 
         private int earliestInRing(int ring) {
-            int present = slotAt(ring, now);
+            int present = presentSlot(ring);
             int found = NOBODY;
             for (int step = 1; step <= SLOTS && found == NOBODY; step++) {
                 found = earliestIn(ring * SLOTS + (present + step) % SLOTS);

@@ -34,6 +34,7 @@ public final class PromiseTests {
         take();
         restore();
         undo();
+        undoOfEachAction();
         append();
         clearText();
         run();
@@ -70,7 +71,7 @@ public final class PromiseTests {
 
     /** Lets more ticks pass than one call may. */
     private static void passTo(PromiseWheel wheel, int tick) {
-        while (wheel.count(0) < tick) {
+        for (int step = 0; step < 40 && wheel.count(0) < tick; step++) {
             wheel.pass(Math.min(600, tick - wheel.count(0)));
         }
     }
@@ -561,7 +562,10 @@ public final class PromiseTests {
         wheel.set(1, 9);
         wheel.set(2, 1);
         wheel.move(0, 77);
-        wheel.give(40, 0, 0);
+        for (int promise = 0; promise < 9; promise++) {
+            wheel.give(4, 0, 0);
+        }
+        wheel.set(0, 1);
         wheel.pass(70);
         wheel.sweep();
         same("9: the present tick then", wheel.restore(0), 2);
@@ -643,6 +647,55 @@ public final class PromiseTests {
         same("10: the failure stays", wheel.failure(1), 7);
     }
 
+    private static void undoOfEachAction() {
+        PromiseWheel wheel = new PromiseWheel();
+        wheel.set(0, 1);
+        wheel.give(1, 3, 9);
+        wheel.give(1, 3, 9);
+        wheel.give(90, 0, 0);
+        wheel.give(90, 0, 0);
+        wheel.take(1);
+        wheel.pass(1);
+        wheel.breakOff(3);
+        int[] before = looks(wheel);
+        for (int action = 0; action < 9; action++) {
+            same("10: action " + action, act(wheel, action) >= 0 ? 1 : 0, 1);
+            same("10: undo of action " + action, wheel.undo(), 4);
+            same("10: as before action " + action, differences(before, looks(wheel)), 0);
+            same("10: the snapshots as before action " + action, wheel.count(11), 1);
+            wheel.sweep();
+            wheel.undo();
+            wheel.give(1, 0, 0);
+            wheel.undo();
+            // Each turn dropped the oldest state, so one more action fills the history again.
+            wheel.set(0, 1);
+        }
+    }
+
+    private static int act(PromiseWheel wheel, int action) {
+        switch (action) {
+            case 0:
+                return wheel.give(9, 9, 9);
+            case 1:
+                return wheel.breakOff(2);
+            case 2:
+                return wheel.move(2, 5);
+            case 3:
+                return wheel.pass(50);
+            case 4:
+                return wheel.sweep();
+            case 5:
+                return wheel.set(1, 40);
+            case 6:
+                return wheel.take(0);
+            case 7:
+                return wheel.restore(1);
+            default:
+                write(wheel, "pass 2;break 2;");
+                return wheel.run();
+        }
+    }
+
     private static void append() {
         PromiseWheel wheel = new PromiseWheel();
         same("11: 0", wheel.append(0), INVALID);
@@ -701,11 +754,13 @@ public final class PromiseTests {
             ";", "pass 1;;", "pass;", "pass 1 2;", "pass 01;", "pass 00;", "pass 12345;", "pas 1;",
             "passs 1;", "PASS 1;", "pass -1;", "give 1 0;", "pass 1", "pass 1 ", "pass", "give 1 ",
             "sweep 1;", "sweep sweep;", "1;", "pass 1;x", "pass\t1;", "pass x;", "move 1;",
+            "passz 1;", "bass 1;", "xive 1 0 0;", "sweepzz;", "{sweep;", "`sweep;", "pass/1;", "pass:1;",
             "break;", "pass 1.", "!", "give 1 0 0 0;", "pass 1;swee", "   x", "breakoff 0;"};
         int[] places = {
             0, 7, 4, 7, 5, 5, 5, 0,
             0, 0, 5, 8, 6, 7, 4, 7,
             6, 6, 0, 7, 4, 5, 6,
+            0, 0, 0, 0, 0, 0, 4, 4,
             5, 6, 0, 11, 7, 3, 0};
         for (int at = 0; at < texts.length; at++) {
             PromiseWheel wheel = withText(texts[at]);
@@ -1018,6 +1073,7 @@ public final class PromiseTests {
 
     private static void would() {
         PromiseWheel wheel = new PromiseWheel();
+        same("22: none is ready", wheel.would(600, 2), 0);
         same("22: 0 ticks", wheel.would(0, 0), INVALID);
         same("22: 601 ticks", wheel.would(601, 0), INVALID);
         same("22: what -1", wheel.would(1, -1), INVALID);
@@ -1041,6 +1097,11 @@ public final class PromiseTests {
         same("22: from now on", wheel.would(1, 0), 2);
         same("22: late ones from now on", wheel.would(1, 1), 2);
         same("22: at the end of one of these ticks, not now", wheel.would(1, 2), 3);
+        wheel.pass(1);
+        same("22: late ones before do not count", wheel.would(1, 1), 2);
+        same("22: late ones before do not count", wheel.would(600, 1), 3);
+        same("22: calls before do not count", wheel.would(600, 0), 4);
+        wheel.undo();
         wheel.breakOff(6);
         same("22: broken ones are not ready", wheel.would(1, 2), 2);
         same("22: nor called", wheel.would(9, 0), 5);

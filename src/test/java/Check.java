@@ -4,8 +4,14 @@ final class Check {
 
     private static int passed = 0;
     private static int failed = 0;
+    private static String about = "";
 
     private Check() {
+    }
+
+    /** What follows is told to be about this, if it fails. */
+    static void about(String text) {
+        about = text.isEmpty() ? "" : text + " | ";
     }
 
     static void same(String what, long got, long due) {
@@ -15,7 +21,7 @@ final class Check {
         }
         failed++;
         if (failed <= MOST_PRINTED) {
-            System.out.println(what + " answered " + got + ", due is " + due);
+            System.out.println(about + what + " answered " + got + ", due is " + due);
         }
     }
 
@@ -25,6 +31,10 @@ final class Check {
 
     static boolean hasFailed() {
         return failed > 0;
+    }
+
+    static int answers() {
+        return passed + failed;
     }
 
     static void finish(String name) {

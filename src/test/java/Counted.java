@@ -1,5 +1,5 @@
 /** A wheel whose calls are counted: nothing is promised about an object after its 512th call. */
-final class Counted {
+final class Counted implements Face {
     static final int MOST_CALLS = 512;
 
     private final PromiseWheel wheel = new PromiseWheel();
@@ -17,91 +17,113 @@ final class Counted {
         return wheel;
     }
 
-    int give(int delay, int period, int repetitions) {
+    @Override
+    public int give(int delay, int period, int repetitions) {
         return used().give(delay, period, repetitions);
     }
 
-    int breakOff(int promise) {
+    @Override
+    public int breakOff(int promise) {
         return used().breakOff(promise);
     }
 
-    int move(int promise, int delay) {
+    @Override
+    public int move(int promise, int delay) {
         return used().move(promise, delay);
     }
 
-    int pass(int ticks) {
+    @Override
+    public int pass(int ticks) {
         return used().pass(ticks);
     }
 
-    int sweep() {
+    @Override
+    public int sweep() {
         return used().sweep();
     }
 
-    int set(int what, int value) {
+    @Override
+    public int set(int what, int value) {
         return used().set(what, value);
     }
 
-    int take(int slot) {
+    @Override
+    public int take(int slot) {
         return used().take(slot);
     }
 
-    int restore(int slot) {
+    @Override
+    public int restore(int slot) {
         return used().restore(slot);
     }
 
-    int undo() {
+    @Override
+    public int undo() {
         return used().undo();
     }
 
-    int append(int character) {
+    @Override
+    public int append(int character) {
         return used().append(character);
     }
 
-    int clearText() {
+    @Override
+    public int clearText() {
         return used().clearText();
     }
 
-    int run() {
+    @Override
+    public int run() {
         return used().run();
     }
 
-    int failure(int what) {
+    @Override
+    public int failure(int what) {
         return used().failure(what);
     }
 
-    int count(int what) {
+    @Override
+    public int count(int what) {
         return used().count(what);
     }
 
-    int promise(int promise, int what) {
+    @Override
+    public int promise(int promise, int what) {
         return used().promise(promise, what);
     }
 
-    int slot(int ring, int slot, int what) {
+    @Override
+    public int slot(int ring, int slot, int what) {
         return used().slot(ring, slot, what);
     }
 
-    int stands(int ring, int slot, int place) {
+    @Override
+    public int stands(int ring, int slot, int place) {
         return used().stands(ring, slot, place);
     }
 
-    int call(int call, int what) {
+    @Override
+    public int call(int call, int what) {
         return used().call(call, what);
     }
 
-    int next(int way, int what) {
+    @Override
+    public int next(int way, int what) {
         return used().next(way, what);
     }
 
-    int when(int promise) {
+    @Override
+    public int when(int promise) {
         return used().when(promise);
     }
 
-    int would(int ticks, int what) {
+    @Override
+    public int would(int ticks, int what) {
         return used().would(ticks, what);
     }
 
-    int leastRoom(int ticks) {
+    @Override
+    public int leastRoom(int ticks) {
         return used().leastRoom(ticks);
     }
 

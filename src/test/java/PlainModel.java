@@ -9,7 +9,7 @@ import java.util.regex.Pattern;
  * The document once more, in lists of the Java library and with whole copies for each state, so that
  * the program can be compared with something that is held in another way.
  */
-final class PlainModel {
+final class PlainModel implements Face {
     private static final int INVALID = -1;
     private static final int ILLEGAL = -2;
     private static final int FULL = -3;
@@ -257,7 +257,8 @@ final class PlainModel {
         return value < least || value > most;
     }
 
-    int give(int delay, int period, int repetitions) {
+    @Override
+    public int give(int delay, int period, int repetitions) {
         Saved before = saved();
         return record(before, doGive(delay, period, repetitions));
     }
@@ -281,7 +282,8 @@ final class PlainModel {
         return item.number;
     }
 
-    int breakOff(int promise) {
+    @Override
+    public int breakOff(int promise) {
         Saved before = saved();
         return record(before, doBreak(promise));
     }
@@ -302,7 +304,8 @@ final class PlainModel {
         return world.brokenStanding();
     }
 
-    int move(int promise, int delay) {
+    @Override
+    public int move(int promise, int delay) {
         Saved before = saved();
         return record(before, doMove(promise, delay));
     }
@@ -322,7 +325,8 @@ final class PlainModel {
         return old;
     }
 
-    int pass(int ticks) {
+    @Override
+    public int pass(int ticks) {
         Saved before = saved();
         return record(before, doPass(ticks));
     }
@@ -341,12 +345,14 @@ final class PlainModel {
         return called;
     }
 
-    int sweep() {
+    @Override
+    public int sweep() {
         Saved before = saved();
         return record(before, world.sweepAll());
     }
 
-    int set(int what, int value) {
+    @Override
+    public int set(int what, int value) {
         if (out(what, 0, 2)) {
             return INVALID;
         }
@@ -361,7 +367,8 @@ final class PlainModel {
         return record(before, old);
     }
 
-    int take(int slot) {
+    @Override
+    public int take(int slot) {
         if (out(slot, 0, 1)) {
             return INVALID;
         }
@@ -370,7 +377,8 @@ final class PlainModel {
         return record(before, world.now);
     }
 
-    int restore(int slot) {
+    @Override
+    public int restore(int slot) {
         if (out(slot, 0, 1)) {
             return INVALID;
         }
@@ -382,7 +390,8 @@ final class PlainModel {
         return record(before, world.now);
     }
 
-    int undo() {
+    @Override
+    public int undo() {
         if (history.isEmpty()) {
             return ILLEGAL;
         }
@@ -395,7 +404,8 @@ final class PlainModel {
         snapshots = saved.snapshots;
     }
 
-    int append(int character) {
+    @Override
+    public int append(int character) {
         if (out(character, 1, 255)) {
             return INVALID;
         }
@@ -406,7 +416,8 @@ final class PlainModel {
         return text.length();
     }
 
-    int clearText() {
+    @Override
+    public int clearText() {
         int length = text.length();
         text = "";
         return length;
@@ -414,7 +425,8 @@ final class PlainModel {
 
     private static final Pattern TOKEN = Pattern.compile("[a-z]+|[0-9]+|[^ ]", Pattern.DOTALL);
 
-    int run() {
+    @Override
+    public int run() {
         Saved before = saved();
         List<String> tokens = new ArrayList<>();
         List<Integer> places = new ArrayList<>();
@@ -477,14 +489,16 @@ final class PlainModel {
         return -1000 - place;
     }
 
-    int failure(int what) {
+    @Override
+    public int failure(int what) {
         if (out(what, 0, 3)) {
             return INVALID;
         }
         return failure == null ? NONE : failure[what];
     }
 
-    int count(int what) {
+    @Override
+    public int count(int what) {
         if (out(what, 0, 16)) {
             return INVALID;
         }
@@ -497,7 +511,8 @@ final class PlainModel {
         return all[what];
     }
 
-    int promise(int promise, int what) {
+    @Override
+    public int promise(int promise, int what) {
         if (missing(promise) || out(what, 0, 8)) {
             return INVALID;
         }
@@ -519,7 +534,8 @@ final class PlainModel {
         return all[what];
     }
 
-    int slot(int ring, int slot, int what) {
+    @Override
+    public int slot(int ring, int slot, int what) {
         if (out(ring, 0, 2) || out(slot, 0, 7) || out(what, 0, 2)) {
             return INVALID;
         }
@@ -538,7 +554,8 @@ final class PlainModel {
         return all[what];
     }
 
-    int stands(int ring, int slot, int place) {
+    @Override
+    public int stands(int ring, int slot, int place) {
         if (out(ring, 0, 3) || out(slot, 0, ring == 3 ? 0 : 7) || place < 0) {
             return INVALID;
         }
@@ -546,7 +563,8 @@ final class PlainModel {
         return place < line.size() ? line.get(place) : NONE;
     }
 
-    int call(int call, int what) {
+    @Override
+    public int call(int call, int what) {
         if (out(call, 0, 11) || out(what, 0, 2)) {
             return INVALID;
         }
@@ -554,7 +572,8 @@ final class PlainModel {
         return at < 0 ? NONE : world.calls.get(at)[what];
     }
 
-    int next(int way, int what) {
+    @Override
+    public int next(int way, int what) {
         if (out(way, 0, 1) || out(what, 0, 1)) {
             return INVALID;
         }
@@ -570,7 +589,8 @@ final class PlainModel {
         return what == 0 ? first.number : first.due;
     }
 
-    int when(int promise) {
+    @Override
+    public int when(int promise) {
         if (missing(promise)) {
             return INVALID;
         }
@@ -591,7 +611,8 @@ final class PlainModel {
         return NONE;
     }
 
-    int would(int ticks, int what) {
+    @Override
+    public int would(int ticks, int what) {
         if (out(ticks, 1, 600) || out(what, 0, 2)) {
             return INVALID;
         }
@@ -606,7 +627,8 @@ final class PlainModel {
         return all[what];
     }
 
-    int leastRoom(int ticks) {
+    @Override
+    public int leastRoom(int ticks) {
         if (out(ticks, 1, 200)) {
             return INVALID;
         }

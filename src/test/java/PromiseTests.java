@@ -15,6 +15,33 @@ public final class PromiseTests {
     private static final int CALLED = 7;
     private static final int LATENESS = 8;
 
+    /** At tick 2: two are in the queue, two wait again, and a broken one is far away. */
+    private static final Story RESTORABLE = wheel -> {
+        wheel.set(0, 1);
+        for (int promise = 0; promise < 4; promise++) {
+            wheel.give(1, 3, 9);
+        }
+        wheel.give(200, 0, 0);
+        wheel.breakOff(4);
+        wheel.pass(2);
+        wheel.write("x");
+        wheel.run();
+        wheel.write("yz");
+    };
+    private static final Story CHANGES = wheel -> {
+        wheel.set(0, 9);
+        wheel.set(1, 9);
+        wheel.set(2, 1);
+        wheel.move(0, 77);
+        for (int promise = 0; promise < 9; promise++) {
+            wheel.give(4, 0, 0);
+        }
+        wheel.set(0, 1);
+        wheel.pass(70);
+        wheel.sweep();
+    };
+    private static final Story WAITING_IN_TURN = RESTORABLE.then(wheel -> wheel.give(300, 0, 0));
+
     private PromiseTests() {
     }
 
@@ -57,23 +84,10 @@ public final class PromiseTests {
         Check.same(what, got, due);
     }
 
-    private static PromiseWheel withText(String text) {
-        PromiseWheel wheel = new PromiseWheel();
-        write(wheel, text);
+    private static Counted withText(String text) {
+        Counted wheel = new Counted();
+        wheel.write(text);
         return wheel;
-    }
-
-    private static void write(PromiseWheel wheel, String text) {
-        for (int at = 0; at < text.length(); at++) {
-            wheel.append(text.charAt(at));
-        }
-    }
-
-    /** Lets more ticks pass than one call may. */
-    private static void passTo(PromiseWheel wheel, int tick) {
-        for (int step = 0; step < 40 && wheel.count(0) < tick; step++) {
-            wheel.pass(Math.min(600, tick - wheel.count(0)));
-        }
     }
 
     private static void constants() {
@@ -84,7 +98,7 @@ public final class PromiseTests {
     }
 
     private static void newObject() {
-        PromiseWheel wheel = new PromiseWheel();
+        Counted wheel = new Counted();
         for (int what = 0; what <= 13; what++) {
             same("1: count(" + what + ")", wheel.count(what), 0);
         }
@@ -104,7 +118,7 @@ public final class PromiseTests {
     }
 
     private static void give() {
-        PromiseWheel wheel = new PromiseWheel();
+        Counted wheel = new Counted();
         same("2: delay 0", wheel.give(0, 0, 0), INVALID);
         same("2: delay 512", wheel.give(512, 0, 0), INVALID);
         same("2: period -1", wheel.give(1, -1, 0), INVALID);
@@ -134,7 +148,7 @@ public final class PromiseTests {
     }
 
     private static void breakOff() {
-        PromiseWheel wheel = new PromiseWheel();
+        Counted wheel = new Counted();
         same("3: none given", wheel.breakOff(0), INVALID);
         wheel.give(1, 0, 0);
         wheel.give(9, 0, 0);
@@ -158,7 +172,7 @@ public final class PromiseTests {
     }
 
     private static void move() {
-        PromiseWheel wheel = new PromiseWheel();
+        Counted wheel = new Counted();
         same("4: none given", wheel.move(0, 1), INVALID);
         wheel.give(3, 0, 0);
         wheel.give(3, 0, 0);
@@ -197,7 +211,7 @@ public final class PromiseTests {
     }
 
     private static void rings() {
-        PromiseWheel wheel = new PromiseWheel();
+        Counted wheel = new Counted();
         int[] delays = {1, 7, 8, 15, 16, 63, 64, 127, 128, 511};
         int[] rings = {0, 0, 1, 1, 1, 1, 2, 2, 2, 2};
         int[] slots = {1, 7, 1, 1, 2, 7, 1, 1, 2, 7};
@@ -206,7 +220,7 @@ public final class PromiseTests {
             same("rings: ring of delay " + delays[at], wheel.promise(at, RING), rings[at]);
             same("rings: slot of delay " + delays[at], wheel.promise(at, SLOT), slots[at]);
         }
-        PromiseWheel later = new PromiseWheel();
+        Counted later = new Counted();
         later.pass(77);
         int[] laterRings = {0, 0, 1, 1, 1, 1, 2, 2, 2, 2};
         int[] laterSlots = {6, 4, 2, 3, 3, 1, 2, 3, 3, 1};
@@ -218,7 +232,7 @@ public final class PromiseTests {
     }
 
     private static void tickOrder() {
-        PromiseWheel wheel = new PromiseWheel();
+        Counted wheel = new Counted();
         wheel.set(0, 20);
         wheel.give(64, 0, 0);
         wheel.pass(1);
@@ -253,7 +267,7 @@ public final class PromiseTests {
     }
 
     private static void brokenFall() {
-        PromiseWheel wheel = new PromiseWheel();
+        Counted wheel = new Counted();
         wheel.give(70, 0, 0);
         wheel.give(20, 0, 0);
         wheel.give(5, 0, 0);
@@ -280,7 +294,7 @@ public final class PromiseTests {
     }
 
     private static void queueAndRoom() {
-        PromiseWheel wheel = new PromiseWheel();
+        Counted wheel = new Counted();
         for (int promise = 0; promise < 7; promise++) {
             wheel.give(2, 0, 0);
         }
@@ -310,7 +324,7 @@ public final class PromiseTests {
     }
 
     private static void lastOfQueueBroken() {
-        PromiseWheel wheel = new PromiseWheel();
+        Counted wheel = new Counted();
         wheel.set(0, 1);
         wheel.give(1, 0, 0);
         wheel.give(1, 0, 0);
@@ -326,7 +340,7 @@ public final class PromiseTests {
     }
 
     private static void repetitions() {
-        PromiseWheel wheel = new PromiseWheel();
+        Counted wheel = new Counted();
         wheel.give(2, 5, 2);
         same("5: first call", wheel.pass(2), 1);
         same("5: waits again", wheel.promise(0, STATE), 0);
@@ -355,7 +369,7 @@ public final class PromiseTests {
     /** By the room 1 the last of seven that are due at 1 is called at 7. */
     private static void latePeriods(int drift, int period, int dueAgain, int passedOver) {
         String by = "5: by the drift " + drift + " and the period " + period + ": ";
-        PromiseWheel wheel = new PromiseWheel();
+        Counted wheel = new Counted();
         wheel.set(0, 1);
         wheel.set(2, drift);
         for (int promise = 0; promise < 6; promise++) {
@@ -375,7 +389,7 @@ public final class PromiseTests {
     }
 
     private static void periodAlone() {
-        PromiseWheel wheel = new PromiseWheel();
+        Counted wheel = new Counted();
         wheel.give(1, 4, 0);
         same("5: a period without repetitions", wheel.pass(20), 1);
         same("5: is done", wheel.promise(0, STATE), 2);
@@ -383,7 +397,7 @@ public final class PromiseTests {
     }
 
     private static void longPeriod() {
-        PromiseWheel wheel = new PromiseWheel();
+        Counted wheel = new Counted();
         wheel.give(1, 511, 1);
         wheel.pass(1);
         same("5: put by its distance", wheel.promise(0, RING), 2);
@@ -394,7 +408,7 @@ public final class PromiseTests {
     }
 
     private static void passEdges() {
-        PromiseWheel wheel = new PromiseWheel();
+        Counted wheel = new Counted();
         same("5: 0 ticks", wheel.pass(0), INVALID);
         same("5: 601 ticks", wheel.pass(601), INVALID);
         same("5: -1", wheel.pass(-1), INVALID);
@@ -402,7 +416,7 @@ public final class PromiseTests {
         same("5: no action", wheel.count(12), 0);
         same("5: 600 ticks", wheel.pass(600), 0);
         same("5: an action", wheel.count(12), 1);
-        passTo(wheel, 19999);
+        wheel.passTo(19999);
         same("5: above 20000", wheel.pass(2), FULL);
         same("5: range first", wheel.pass(601), INVALID);
         same("5: stays", wheel.count(0), 19999);
@@ -417,7 +431,7 @@ public final class PromiseTests {
     }
 
     private static void sweepAndBound() {
-        PromiseWheel wheel = new PromiseWheel();
+        Counted wheel = new Counted();
         same("6: nothing to sweep", wheel.sweep(), 0);
         same("6: an action all the same", wheel.count(12), 1);
         wheel.give(3, 0, 0);
@@ -444,7 +458,7 @@ public final class PromiseTests {
     }
 
     private static void bound() {
-        PromiseWheel wheel = new PromiseWheel();
+        Counted wheel = new Counted();
         for (int promise = 0; promise < 7; promise++) {
             wheel.give(300, 0, 0);
         }
@@ -459,7 +473,7 @@ public final class PromiseTests {
         same("5: more than the bound are swept, all of them", wheel.count(8), 6);
         same("5: none stands", wheel.count(4), 0);
         same("5: the others stay", wheel.stands(2, 4, 0), 6);
-        PromiseWheel queue = new PromiseWheel();
+        Counted queue = new Counted();
         queue.set(0, 1);
         queue.set(1, 1);
         for (int promise = 0; promise < 5; promise++) {
@@ -477,7 +491,7 @@ public final class PromiseTests {
     }
 
     private static void queueIsMeasuredAfterTheSweep() {
-        PromiseWheel wheel = new PromiseWheel();
+        Counted wheel = new Counted();
         wheel.set(0, 1);
         wheel.set(1, 0);
         wheel.give(1, 0, 0);
@@ -493,7 +507,7 @@ public final class PromiseTests {
     }
 
     private static void set() {
-        PromiseWheel wheel = new PromiseWheel();
+        Counted wheel = new Counted();
         same("7: what -1", wheel.set(-1, 1), INVALID);
         same("7: what 3", wheel.set(3, 1), INVALID);
         same("7: room 0", wheel.set(0, 0), INVALID);
@@ -516,7 +530,7 @@ public final class PromiseTests {
     }
 
     private static void take() {
-        PromiseWheel wheel = new PromiseWheel();
+        Counted wheel = new Counted();
         same("8: slot -1", wheel.take(-1), INVALID);
         same("8: slot 2", wheel.take(2), INVALID);
         same("8: no action", wheel.count(12), 0);
@@ -542,84 +556,39 @@ public final class PromiseTests {
     }
 
     private static void restore() {
-        PromiseWheel wheel = new PromiseWheel();
+        Counted wheel = new Counted();
         same("9: slot -1", wheel.restore(-1), INVALID);
         same("9: slot 2", wheel.restore(2), INVALID);
         same("9: empty", wheel.restore(1), ILLEGAL);
-        wheel.set(0, 1);
-        for (int promise = 0; promise < 4; promise++) {
-            wheel.give(1, 3, 9);
-        }
-        wheel.give(200, 0, 0);
-        wheel.breakOff(4);
-        wheel.pass(2);
-        write(wheel, "x");
-        wheel.run();
-        write(wheel, "yz");
-        wheel.take(0);
-        int[] before = looks(wheel);
-        wheel.set(0, 9);
-        wheel.set(1, 9);
-        wheel.set(2, 1);
-        wheel.move(0, 77);
-        for (int promise = 0; promise < 9; promise++) {
-            wheel.give(4, 0, 0);
-        }
-        wheel.set(0, 1);
-        wheel.pass(70);
-        wheel.sweep();
+        Story taken = RESTORABLE.then(made -> made.take(0));
+        Story restored = taken.then(CHANGES).then(made -> made.restore(0));
+        wheel = taken.then(CHANGES).told();
         same("9: the present tick then", wheel.restore(0), 2);
-        same("9: as it was", differences(before, looks(wheel)), 0);
+        asBefore("9: as it was", RESTORABLE, restored);
         same("9: the text stays", wheel.count(13), 3);
         same("9: the failure stays", wheel.failure(0), 1);
         same("9: the history stays and grows", wheel.count(12), 5);
         same("9: the snapshot stays", wheel.count(11), 1);
         wheel.pass(9);
         same("9: again", wheel.restore(0), 2);
-        same("9: as it was", differences(before, looks(wheel)), 0);
+        asBefore("9: as it was", RESTORABLE, restored.then(made -> made.pass(9)).then(made -> made.restore(0)));
         wheel.clearText();
         same("9: undo", wheel.undo(), 4);
         same("9: the tick before restoring", wheel.count(0), 11);
     }
 
-    /** All that a snapshot keeps, as far as it can be seen. */
-    private static int[] looks(PromiseWheel wheel) {
-        int[] seen = new int[40 * 9 + 24 * 3 + 36 + 17 + 40];
-        int at = 0;
-        for (int what = 0; what <= 16; what++) {
-            seen[at++] = what >= 11 && what <= 13 ? 0 : wheel.count(what);
-        }
-        for (int promise = 0; promise < 40; promise++) {
-            for (int what = 0; what <= 8; what++) {
-                seen[at++] = wheel.promise(promise, what);
-            }
-            seen[at++] = wheel.stands(3, 0, promise);
-        }
-        for (int slot = 0; slot < 24; slot++) {
-            for (int what = 0; what <= 2; what++) {
-                seen[at++] = wheel.slot(slot / 8, slot % 8, what);
-            }
-        }
-        for (int call = 0; call < 12; call++) {
-            for (int what = 0; what <= 2; what++) {
-                seen[at++] = wheel.call(call, what);
-            }
-        }
-        return seen;
+    private static void asBefore(String what, Story before, Story after) {
+        String difference = Looks.difference(Looks.atTheWheel(before), Looks.atTheWheel(after));
+        Check.holds(what + " " + difference, difference.isEmpty());
     }
 
-    private static int differences(int[] some, int[] others) {
-        int found = 0;
-        for (int at = 0; at < some.length; at++) {
-            if (some[at] != others[at]) {
-                found++;
-            }
-        }
-        return found;
+    private static void nothingChanges(String what, Story before, Story.Call call) {
+        String difference = Looks.difference(Looks.atAll(before), Looks.atAll(before.then(call::of)));
+        Check.holds(what + " " + difference, difference.isEmpty());
     }
 
     private static void undo() {
-        PromiseWheel wheel = new PromiseWheel();
+        Counted wheel = new Counted();
         same("10: empty", wheel.undo(), ILLEGAL);
         for (int action = 0; action < 7; action++) {
             wheel.give(10 + action, 0, 0);
@@ -639,7 +608,7 @@ public final class PromiseTests {
         same("10: undo is no action", wheel.count(12), 1);
         same("10: an error records nothing", wheel.pass(0), INVALID);
         same("10: still one", wheel.count(12), 1);
-        write(wheel, "pass 3;!");
+        wheel.write("pass 3;!");
         same("10: a failed program records nothing", wheel.run(), -1007);
         same("10: still one", wheel.count(12), 1);
         same("10: undo", wheel.undo(), 0);
@@ -648,31 +617,34 @@ public final class PromiseTests {
     }
 
     private static void undoOfEachAction() {
-        PromiseWheel wheel = new PromiseWheel();
-        wheel.set(0, 1);
-        wheel.give(1, 3, 9);
-        wheel.give(1, 3, 9);
-        wheel.give(90, 0, 0);
-        wheel.give(90, 0, 0);
-        wheel.take(1);
-        wheel.pass(1);
-        wheel.breakOff(3);
-        int[] before = looks(wheel);
-        for (int action = 0; action < 9; action++) {
+        Story before = wheel -> {
+            wheel.set(0, 1);
+            wheel.give(1, 3, 9);
+            wheel.give(1, 3, 9);
+            wheel.give(90, 0, 0);
+            wheel.give(90, 0, 0);
+            wheel.take(1);
+            wheel.pass(1);
+            wheel.breakOff(3);
+        };
+        for (int number = 0; number < 9; number++) {
+            int action = number;
+            Story acted = before.then(wheel -> act(wheel, action));
+            Counted wheel = before.told();
             same("10: action " + action, act(wheel, action) >= 0 ? 1 : 0, 1);
             same("10: undo of action " + action, wheel.undo(), 4);
-            same("10: as before action " + action, differences(before, looks(wheel)), 0);
             same("10: the snapshots as before action " + action, wheel.count(11), 1);
-            wheel.sweep();
-            wheel.undo();
-            wheel.give(1, 0, 0);
-            wheel.undo();
-            // Each turn dropped the oldest state, so one more action fills the history again.
-            wheel.set(0, 1);
+            asBefore("10: as before action " + action, before, acted.then(Counted::undo));
+            // The next action finds the history's rows in another order.
+            before = before.then(made -> {
+                made.sweep();
+                made.undo();
+                made.set(0, 1);
+            });
         }
     }
 
-    private static int act(PromiseWheel wheel, int action) {
+    private static int act(Counted wheel, int action) {
         switch (action) {
             case 0:
                 return wheel.give(9, 9, 9);
@@ -691,13 +663,13 @@ public final class PromiseTests {
             case 7:
                 return wheel.restore(1);
             default:
-                write(wheel, "pass 2;break 2;");
+                wheel.write("pass 2;break 2;");
                 return wheel.run();
         }
     }
 
     private static void append() {
-        PromiseWheel wheel = new PromiseWheel();
+        Counted wheel = new Counted();
         same("11: 0", wheel.append(0), INVALID);
         same("11: 256", wheel.append(256), INVALID);
         same("11: -1", wheel.append(-1), INVALID);
@@ -714,17 +686,17 @@ public final class PromiseTests {
     }
 
     private static void clearText() {
-        PromiseWheel wheel = withText("pass 1");
+        Counted wheel = withText("pass 1");
         same("12: before", wheel.clearText(), 6);
         same("12: empty", wheel.count(13), 0);
         same("12: already empty", wheel.clearText(), 0);
         same("12: no action", wheel.count(12), 0);
-        write(wheel, "sweep;");
+        wheel.write("sweep;");
         same("12: nothing of the old text is left", wheel.run(), 1);
     }
 
     private static void run() {
-        PromiseWheel wheel = withText("give 5 2 1;give 100 0 0;move 1 3;break 1;pass 5;sweep;");
+        Counted wheel = withText("give 5 2 1;give 100 0 0;move 1 3;break 1;pass 5;sweep;");
         same("13: commands", wheel.run(), 6);
         same("13: the text becomes empty", wheel.count(13), 0);
         same("13: given", wheel.count(1), 2);
@@ -737,9 +709,9 @@ public final class PromiseTests {
         same("13: spaces alone", runs("    "), 0);
         same("13: four digits", runs("give 1 1 99;pass 600;"), 2);
         same("13: nothing", runs(""), 0);
-        PromiseWheel full = new PromiseWheel();
+        Counted full = new Counted();
         for (int command = 0; command < 20; command++) {
-            write(full, "sweep;");
+            full.write("sweep;");
         }
         same("13: 120 characters", full.count(13), 120);
         same("13: twenty commands", full.run(), 20);
@@ -763,7 +735,7 @@ public final class PromiseTests {
             0, 0, 0, 0, 0, 0, 4, 4,
             5, 6, 0, 11, 7, 3, 0};
         for (int at = 0; at < texts.length; at++) {
-            PromiseWheel wheel = withText(texts[at]);
+            Counted wheel = withText(texts[at]);
             same("13: run of " + texts[at], wheel.run(), -1000 - places[at]);
             same("13: kind of " + texts[at], wheel.failure(0), 1);
             same("13: place of " + texts[at], wheel.failure(1), places[at]);
@@ -783,7 +755,7 @@ public final class PromiseTests {
         int[] before = {0, 1, 1, 0, 2, 0, 0};
         int[] codes = {INVALID, INVALID, INVALID, INVALID, ILLEGAL, INVALID, INVALID};
         for (int at = 0; at < texts.length; at++) {
-            PromiseWheel wheel = withText(texts[at]);
+            Counted wheel = withText(texts[at]);
             same("13: run of " + texts[at], wheel.run(), -1000 - places[at]);
             same("14: kind of " + texts[at], wheel.failure(0), 2);
             same("14: place of " + texts[at], wheel.failure(1), places[at]);
@@ -792,18 +764,18 @@ public final class PromiseTests {
             same("13: nothing stays", wheel.count(0), 0);
             same("13: nothing stays", wheel.count(1), 0);
         }
-        PromiseWheel late = new PromiseWheel();
-        passTo(late, 19950);
-        write(late, "pass 50;pass 1;");
+        Counted late = new Counted();
+        late.passTo(19950);
+        late.write("pass 50;pass 1;");
         same("13: above 20000", late.run(), -1008);
         same("14: code", late.failure(3), FULL);
         same("13: nothing stays", late.count(0), 19950);
     }
 
     private static void runIsOneAction() {
-        PromiseWheel wheel = new PromiseWheel();
+        Counted wheel = new Counted();
         wheel.pass(1);
-        write(wheel, "pass 1;pass 1;pass 1;pass 1;pass 1;pass 1;");
+        wheel.write("pass 1;pass 1;pass 1;pass 1;pass 1;pass 1;");
         same("13: six commands", wheel.run(), 6);
         same("13: one action", wheel.count(12), 2);
         same("13: nothing to run", wheel.run(), 0);
@@ -816,7 +788,7 @@ public final class PromiseTests {
     }
 
     private static void failure() {
-        PromiseWheel wheel = withText("pass 1;pass 2;x");
+        Counted wheel = withText("pass 1;pass 2;x");
         same("14: no failure yet", wheel.failure(3), NONE);
         same("14: -1", wheel.failure(-1), INVALID);
         same("14: 4", wheel.failure(4), INVALID);
@@ -828,12 +800,12 @@ public final class PromiseTests {
         same("14: commands before", wheel.failure(2), 2);
         same("14: no code", wheel.failure(3), NONE);
         wheel.clearText();
-        write(wheel, "sweep;");
+        wheel.write("sweep;");
         wheel.run();
         same("14: stays when a later one does not fail", wheel.failure(1), 14);
         wheel.undo();
         same("14: stays when it is undone", wheel.failure(1), 14);
-        write(wheel, "sweep;break 7;");
+        wheel.write("sweep;break 7;");
         wheel.run();
         same("14: the latest", wheel.failure(0), 2);
         same("14: the latest", wheel.failure(1), 6);
@@ -842,7 +814,7 @@ public final class PromiseTests {
     }
 
     private static void count() {
-        PromiseWheel wheel = new PromiseWheel();
+        Counted wheel = new Counted();
         same("15: -1", wheel.count(-1), INVALID);
         same("15: 17", wheel.count(17), INVALID);
         wheel.set(0, 1);
@@ -855,7 +827,7 @@ public final class PromiseTests {
         wheel.breakOff(4);
         wheel.breakOff(2);
         wheel.take(1);
-        write(wheel, "abc");
+        wheel.write("abc");
         int[] due = {1, 5, 2, 1, 2, 1, 0, 0, 0, 0, 2, 1, 5, 3, 1, 5, 0};
         for (int what = 0; what < due.length; what++) {
             same("15: count(" + what + ")", wheel.count(what), due[what]);
@@ -869,7 +841,7 @@ public final class PromiseTests {
     }
 
     private static void promise() {
-        PromiseWheel wheel = new PromiseWheel();
+        Counted wheel = new Counted();
         same("16: none given", wheel.promise(0, 0), INVALID);
         wheel.set(0, 1);
         wheel.give(1, 0, 0);
@@ -896,14 +868,14 @@ public final class PromiseTests {
         tells("16: swept", wheel, 4, new int[] {4, 75, 12, 4, NONE, NONE, NONE, 0, 0});
     }
 
-    private static void tells(String what, PromiseWheel wheel, int promise, int[] due) {
+    private static void tells(String what, Counted wheel, int promise, int[] due) {
         for (int part = 0; part < due.length; part++) {
             same(what + " " + part, wheel.promise(promise, part), due[part]);
         }
     }
 
     private static void slot() {
-        PromiseWheel wheel = new PromiseWheel();
+        Counted wheel = new Counted();
         same("17: ring -1", wheel.slot(-1, 0, 0), INVALID);
         same("17: ring 3", wheel.slot(3, 0, 0), INVALID);
         same("17: slot -1", wheel.slot(0, -1, 0), INVALID);
@@ -932,7 +904,7 @@ public final class PromiseTests {
     }
 
     private static void stands() {
-        PromiseWheel wheel = new PromiseWheel();
+        Counted wheel = new Counted();
         wheel.give(10, 0, 0);
         wheel.give(10, 0, 0);
         wheel.give(1, 0, 0);
@@ -956,7 +928,7 @@ public final class PromiseTests {
     }
 
     private static void call() {
-        PromiseWheel wheel = new PromiseWheel();
+        Counted wheel = new Counted();
         same("19: none yet", wheel.call(0, 0), NONE);
         same("19: call -1", wheel.call(-1, 0), INVALID);
         same("19: call 12", wheel.call(12, 0), INVALID);
@@ -983,7 +955,7 @@ public final class PromiseTests {
     }
 
     private static void next() {
-        PromiseWheel wheel = new PromiseWheel();
+        Counted wheel = new Counted();
         same("20: way -1", wheel.next(-1, 0), INVALID);
         same("20: way 2", wheel.next(2, 0), INVALID);
         same("20: what -1", wheel.next(0, -1), INVALID);
@@ -1008,7 +980,7 @@ public final class PromiseTests {
         wheel.set(0, 1);
         wheel.pass(42);
         nextIs("20: ready ones do not wait", wheel, 1, 64);
-        PromiseWheel far = new PromiseWheel();
+        Counted far = new Counted();
         far.pass(63);
         far.give(65, 0, 0);
         far.give(1, 0, 0);
@@ -1020,7 +992,7 @@ public final class PromiseTests {
         nextIs("20: all in ring 2", far, 0, 128);
     }
 
-    private static void nextIs(String what, PromiseWheel wheel, int promise, int due) {
+    private static void nextIs(String what, Counted wheel, int promise, int due) {
         for (int way = 0; way <= 1; way++) {
             same(what + ", way " + way, wheel.next(way, 0), promise);
             same(what + ", due, way " + way, wheel.next(way, 1), due);
@@ -1028,7 +1000,7 @@ public final class PromiseTests {
     }
 
     private static void when() {
-        PromiseWheel wheel = new PromiseWheel();
+        Counted wheel = new Counted();
         same("21: none given", wheel.when(0), INVALID);
         same("21: -1", wheel.when(-1), INVALID);
         wheel.set(0, 1);
@@ -1036,12 +1008,11 @@ public final class PromiseTests {
         wheel.give(3, 0, 0);
         wheel.give(3, 5, 9);
         wheel.give(511, 0, 0);
-        int[] before = looks(wheel);
         same("21: on time", wheel.when(0), 3);
         same("21: late", wheel.when(1), 4);
         same("21: later", wheel.when(2), 5);
         same("21: far", wheel.when(3), 511);
-        same("21: nothing changes", differences(before, looks(wheel)), 0);
+        nothingChanges("21: nothing changes", WAITING_IN_TURN, made -> made.when(5));
         same("21: nothing is recorded", wheel.count(12), 5);
         wheel.pass(3);
         same("21: done", wheel.when(0), ILLEGAL);
@@ -1055,14 +1026,14 @@ public final class PromiseTests {
     }
 
     private static void farBehind() {
-        PromiseWheel wheel = new PromiseWheel();
+        Counted wheel = new Counted();
         wheel.set(0, 1);
         for (int promise = 0; promise < 39; promise++) {
             wheel.give(1, 1, 99);
         }
         wheel.give(511, 0, 0);
         same("21: behind 38 others that come again and again", wheel.when(39), 511 + 38);
-        PromiseWheel all = new PromiseWheel();
+        Counted all = new Counted();
         all.set(0, 1);
         for (int promise = 0; promise < 40; promise++) {
             all.give(511, 1, 99);
@@ -1072,7 +1043,7 @@ public final class PromiseTests {
     }
 
     private static void would() {
-        PromiseWheel wheel = new PromiseWheel();
+        Counted wheel = new Counted();
         same("22: none is ready", wheel.would(600, 2), 0);
         same("22: 0 ticks", wheel.would(0, 0), INVALID);
         same("22: 601 ticks", wheel.would(601, 0), INVALID);
@@ -1084,7 +1055,6 @@ public final class PromiseTests {
             wheel.give(2, 0, 0);
         }
         wheel.give(5, 0, 0);
-        int[] before = looks(wheel);
         same("22: before they are due", wheel.would(1, 0), 0);
         same("22: at tick 2", wheel.would(2, 0), 2);
         same("22: not late", wheel.would(2, 1), 0);
@@ -1092,7 +1062,7 @@ public final class PromiseTests {
         same("22: calls", wheel.would(600, 0), 8);
         same("22: late ones", wheel.would(600, 1), 5);
         same("22: most ready", wheel.would(600, 2), 5);
-        same("22: nothing changes", differences(before, looks(wheel)), 0);
+        nothingChanges("22: nothing changes", WAITING_IN_TURN, made -> made.would(600, 2));
         wheel.pass(2);
         same("22: from now on", wheel.would(1, 0), 2);
         same("22: late ones from now on", wheel.would(1, 1), 2);
@@ -1108,7 +1078,7 @@ public final class PromiseTests {
     }
 
     private static void leastRoom() {
-        PromiseWheel wheel = new PromiseWheel();
+        Counted wheel = new Counted();
         same("23: 0 ticks", wheel.leastRoom(0), INVALID);
         same("23: 201 ticks", wheel.leastRoom(201), INVALID);
         same("23: nothing to call", wheel.leastRoom(200), 1);
@@ -1116,11 +1086,10 @@ public final class PromiseTests {
             wheel.give(3, 0, 0);
         }
         wheel.set(0, 2);
-        int[] before = looks(wheel);
         same("23: before they are due", wheel.leastRoom(2), 1);
         same("23: those that are called at 3 are not late", wheel.leastRoom(3), 1);
         same("23: seven at once", wheel.leastRoom(4), 7);
-        same("23: nothing changes", differences(before, looks(wheel)), 0);
+        nothingChanges("23: nothing changes", WAITING_IN_TURN, made -> made.leastRoom(200));
         wheel.give(200, 0, 0);
         same("23: 200 ticks", wheel.leastRoom(200), 7);
         wheel.pass(3);
@@ -1129,7 +1098,7 @@ public final class PromiseTests {
             wheel.breakOff(promise);
         }
         same("23: broken ones are not called", wheel.leastRoom(1), 1);
-        PromiseWheel twenty = new PromiseWheel();
+        Counted twenty = new Counted();
         for (int promise = 0; promise < 20; promise++) {
             twenty.give(9, 0, 0);
         }

@@ -44,88 +44,60 @@ final class TickEdges extends Edges {
     private static void ring2Falls() {
         sentence(TICK, "If it is a multiple of 64, the slot of ring 2 "
                 + "that is this tick divided by 64, left over by 8, falls;");
-        Counted wheel = new Counted();
-        wheel.give(64, 0, 0);
-        wheel.give(127, 0, 0);
-        wheel.give(128, 0, 0);
-        wheel.give(511, 0, 0);
-        wheel.pass(63);
-        line("at 63", wheel, 2, 1, 0, 1);
-        same("at 63 nothing has fallen", wheel.count(7), 0);
-        wheel.pass(1);
-        line("at 64 it is empty", wheel, 2, 1);
-        line("at 64 the next one stands", wheel, 2, 2, 2);
-        line("at 64 the last one stands", wheel, 2, 7, 3);
-        same("at 64 two have fallen", wheel.count(7), 2);
-        wheel.pass(63);
-        line("at 127", wheel, 2, 2, 2);
-        wheel.pass(1);
-        line("at 128", wheel, 2, 2);
-        wheel.passTo(447);
-        line("at 447", wheel, 2, 7, 3);
-        wheel.pass(1);
-        line("at 448", wheel, 2, 7);
-        ring2FallsAround(1);
-        ring2FallsAround(513);
-        ring2FallsAround(18945);
-    }
-
-    /** From one behind a multiple of 512 the slot 0 is a whole round away. */
-    private static void ring2FallsAround(int start) {
-        Counted wheel = new Counted();
-        wheel.passTo(start);
-        wheel.give(511, 0, 0);
-        line("around, at first", wheel, 2, 0, 0);
-        wheel.passTo(start + 510);
-        line("around, before its tick", wheel, 2, 0, 0);
-        same("around, nothing has fallen", wheel.count(7), 0);
-        same("around, called at its tick", wheel.pass(1), 1);
-        same("around, one has fallen", wheel.count(7), 1);
-        same("around, the tick of the call", wheel.call(0, 2), start + 511);
+        ringFalls(2, 64);
+        ringFallsAround(2, 64, 1);
+        ringFallsAround(2, 64, 513);
+        ringFallsAround(2, 64, 18945);
     }
 
     private static void ring1Falls() {
         sentence(TICK, "then, if it is a multiple of 8, the slot of ring 1 "
                 + "that is this tick divided by 8, left over by 8, falls.");
-        Counted wheel = new Counted();
-        wheel.give(8, 0, 0);
-        wheel.give(15, 0, 0);
-        wheel.give(16, 0, 0);
-        wheel.give(63, 0, 0);
-        wheel.pass(7);
-        line("at 7", wheel, 1, 1, 0, 1);
-        same("at 7 nothing has fallen", wheel.count(7), 0);
-        wheel.pass(1);
-        line("at 8 it is empty", wheel, 1, 1);
-        line("at 8 the next one stands", wheel, 1, 2, 2);
-        line("at 8 the last one stands", wheel, 1, 7, 3);
-        same("at 8 two have fallen", wheel.count(7), 2);
-        wheel.pass(7);
-        line("at 15", wheel, 1, 2, 2);
-        wheel.pass(1);
-        line("at 16", wheel, 1, 2);
-        wheel.passTo(55);
-        line("at 55", wheel, 1, 7, 3);
-        wheel.pass(1);
-        line("at 56", wheel, 1, 7);
-        ring1FallsAround(1);
-        ring1FallsAround(65);
-        ring1FallsAround(19905);
+        ringFalls(1, 8);
+        ringFallsAround(1, 8, 1);
+        ringFallsAround(1, 8, 65);
+        ringFallsAround(1, 8, 19905);
         ring2FallsFirst();
     }
 
-    /** From one behind a multiple of 64 the slot 0 is a whole round away. */
-    private static void ring1FallsAround(int start) {
+    /** The first and the last tick of slot 1, the first one of slot 2 and the last one of slot 7. */
+    private static void ringFalls(int ring, int width) {
+        Counted wheel = new Counted();
+        wheel.give(width, 0, 0);
+        wheel.give(2 * width - 1, 0, 0);
+        wheel.give(2 * width, 0, 0);
+        wheel.give(8 * width - 1, 0, 0);
+        wheel.pass(width - 1);
+        line("slot 1, one tick before", wheel, ring, 1, 0, 1);
+        same("nothing has fallen", wheel.count(7), 0);
+        wheel.pass(1);
+        line("slot 1 at its tick", wheel, ring, 1);
+        line("slot 2 does not fall with it", wheel, ring, 2, 2);
+        line("nor does slot 7", wheel, ring, 7, 3);
+        same("two have fallen", wheel.count(7), 2);
+        wheel.pass(width - 1);
+        line("slot 2, one tick before", wheel, ring, 2, 2);
+        wheel.pass(1);
+        line("slot 2 at its tick", wheel, ring, 2);
+        wheel.passTo(7 * width - 1);
+        line("slot 7, one tick before", wheel, ring, 7, 3);
+        wheel.pass(1);
+        line("slot 7 at its tick", wheel, ring, 7);
+    }
+
+    /** From one tick behind a whole round on, slot 0 is as far away as can be. */
+    private static void ringFallsAround(int ring, int width, int start) {
+        int delay = 8 * width - 1;
         Counted wheel = new Counted();
         wheel.passTo(start);
-        wheel.give(63, 0, 0);
-        line("around, at first", wheel, 1, 0, 0);
-        wheel.passTo(start + 62);
-        line("around, before its tick", wheel, 1, 0, 0);
+        wheel.give(delay, 0, 0);
+        line("around, at first", wheel, ring, 0, 0);
+        wheel.passTo(start + delay - 1);
+        line("around, one tick before", wheel, ring, 0, 0);
         same("around, nothing has fallen", wheel.count(7), 0);
         same("around, called at its tick", wheel.pass(1), 1);
         same("around, one has fallen", wheel.count(7), 1);
-        same("around, the tick of the call", wheel.call(0, 2), start + 63);
+        same("around, the tick of the call", wheel.call(0, 2), start + delay);
     }
 
     private static void ring2FallsFirst() {

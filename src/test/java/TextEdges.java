@@ -332,9 +332,28 @@ final class TextEdges extends Edges {
         wrongAt("pass 1 !;", 7);
         wrongAt("sweep;sweep;x;y;", 12);
         wrongAt("sweep x 01 !;", 6);
+        wordsThatAreAlmostCommands();
         Counted wheel = BUSY.then(text("pass 1;sweep;pass ;pass ;")).told();
         wheel.run();
         same("two commands were run before", wheel.failure(2), 2);
+    }
+
+    /** Each letter of each word matters. */
+    private static void wordsThatAreAlmostCommands() {
+        String[][] commands = {{"give", " 9 0 0;"}, {"break", " 1;"}, {"move", " 1 9;"}, {"pass", " 1;"}, {"sweep", ";"}};
+        for (String[] command : commands) {
+            String word = command[0];
+            String numbers = command[1];
+            good(word + numbers, 1);
+            for (int at = 0; at < word.length(); at++) {
+                String before = word.substring(0, at);
+                String behind = word.substring(at + 1);
+                wrongAt(before + "x" + behind + numbers, 0);
+                wrongAt(before + behind + numbers, 0);
+                wrongAt(before + "x" + word.charAt(at) + behind + numbers, 0);
+            }
+            wrongAt(word + "x" + numbers, 0);
+        }
     }
 
     private static void wrongCall() {

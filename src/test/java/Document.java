@@ -9,9 +9,6 @@ import java.util.Map;
 
 /** The document's sections, and which of their words a test has named as what it looks at. */
 final class Document {
-    private static final String SIGNATURE = "^ ?`(int )?\\w+\\([^`]*\\)`:";
-    private static final String COMMENTS_OF_THE_FACE = "Ahead of the calls .*? the interface says: ---- [a-z, ]+\\.";
-
     private final Map<String, String> texts = new LinkedHashMap<>();
     private final Map<String, boolean[]> named = new LinkedHashMap<>();
 
@@ -36,8 +33,7 @@ final class Document {
     }
 
     private void add(String title, String text) {
-        String plain = text.replaceAll("\\s+", " ").replaceAll(SIGNATURE, "")
-                .replaceAll(COMMENTS_OF_THE_FACE, "");
+        String plain = text.replaceAll("\\s+", " ");
         texts.put(title, plain);
         named.put(title, new boolean[plain.length()]);
     }

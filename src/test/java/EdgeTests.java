@@ -1,4 +1,5 @@
 import java.io.IOException;
+import java.nio.file.Files;
 import java.nio.file.Path;
 import java.util.ArrayList;
 import java.util.List;
@@ -15,8 +16,10 @@ public final class EdgeTests {
     }
 
     public static void main(String[] arguments) throws IOException {
+        String source = arguments.length > 0 ? arguments[0] : "src/main/java/PromiseWheel.java";
         Document document = Document.read(DOCUMENT);
         Edges.begin(document);
+        FaceEdges.go(Files.readString(Path.of(source)));
         TermsEdges.go();
         TickEdges.go();
         TextEdges.go();
@@ -33,7 +36,8 @@ public final class EdgeTests {
 
     private static List<String> sections() {
         List<String> sections = new ArrayList<>(List.of(
-                "Terms", "Promises", "Rings", "A tick", "Text", "Snapshots", "Undo", "Errors"));
+                "What it is", "The public face", "Terms", "Promises", "Rings", "A tick", "Text",
+                "Snapshots", "Undo", "Errors"));
         for (int promise = 1; promise <= PROMISES; promise++) {
             sections.add(String.valueOf(promise));
         }

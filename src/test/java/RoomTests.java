@@ -13,7 +13,8 @@ public final class RoomTests {
     private static final int MOST_OBJECTS = 600;
     private static final int MOST_ELEMENTS = 15_000;
     // The machine itself may make a little beside what the calls make.
-    private static final long MOST_BYTES = 20_000;
+    private static final long MOST_BYTES = 2_000;
+    private static final int TURNS = 7;
 
     private RoomTests() {
     }
@@ -68,12 +69,13 @@ public final class RoomTests {
         }
     }
 
+    /** Some 500 calls, each method's among them. */
     private static void useMuch(PromiseWheel wheel) {
         for (int promise = 0; promise < 40; promise++) {
             wheel.give(1 + promise * 12, 3, 99);
         }
         String text = "give 1 0 0;break 7;move 39 9;pass 600;sweep;x";
-        for (int turn = 0; turn < 20; turn++) {
+        for (int turn = 0; turn < TURNS; turn++) {
             for (int at = 0; at < text.length() - turn % 2; at++) {
                 wheel.append(text.charAt(at));
             }
@@ -113,6 +115,6 @@ public final class RoomTests {
         long before = bean.getThreadAllocatedBytes(thread);
         useMuch(wheel);
         long made = bean.getThreadAllocatedBytes(thread) - before;
-        Check.holds("bytes that 1000 calls make: " + made, made <= MOST_BYTES);
+        Check.holds("bytes that these calls make: " + made, made <= MOST_BYTES);
     }
 }

@@ -6,6 +6,7 @@ import com.sun.source.tree.CompoundAssignmentTree;
 import com.sun.source.tree.ExpressionStatementTree;
 import com.sun.source.tree.ExpressionTree;
 import com.sun.source.tree.ForLoopTree;
+import com.sun.source.tree.ImportTree;
 import com.sun.source.tree.LiteralTree;
 import com.sun.source.tree.MethodInvocationTree;
 import com.sun.source.tree.MethodTree;
@@ -97,7 +98,7 @@ final class SourceReading extends TreePathScanner<Void, Void> {
     }
 
     @Override
-    public Void visitImport(com.sun.source.tree.ImportTree tree, Void nothing) {
+    public Void visitImport(ImportTree tree, Void nothing) {
         imports.add((tree.isStatic() ? "static " : "") + tree.getQualifiedIdentifier());
         return super.visitImport(tree, nothing);
     }
@@ -139,16 +140,12 @@ final class SourceReading extends TreePathScanner<Void, Void> {
     public Void visitMethodInvocation(MethodInvocationTree tree, Void nothing) {
         Element called = trees.getElement(getCurrentPath());
         String name = nameOf(called);
-        if (isOwn(name)) {
+        if (name.startsWith("PromiseWheel.")) {
             calls.computeIfAbsent(method, key -> new TreeSet<>()).add(name);
         } else {
             libraryCalls.putIfAbsent(name, line(tree));
         }
         return super.visitMethodInvocation(tree, nothing);
-    }
-
-    private static boolean isOwn(String name) {
-        return name.startsWith("PromiseWheel.") || name.startsWith("PromiseWheel(");
     }
 
     private static String nameOf(Element element) {
